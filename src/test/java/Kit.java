@@ -1,0 +1,84 @@
+import java.util.Objects;
+
+/** What every test uses: tracks ready to run, answers looked at, wrong ones counted. */
+final class Kit {
+    interface Call {
+        void run();
+    }
+
+    private static int wrong = 0;
+
+    private Kit() {
+    }
+
+    /** A track that is not begun: one row of lengths a section. */
+    static TrackKeeper laid(int[]... sections) {
+        TrackKeeper x = new TrackKeeper();
+        for (int[] section : sections) {
+            x.section();
+            for (int length : section) {
+                x.sub(length);
+            }
+        }
+        return x;
+    }
+
+    static TrackKeeper begun(int mute, int keep, int spread, int[]... sections) {
+        TrackKeeper x = laid(sections);
+        x.begin(mute, keep, spread);
+        return x;
+    }
+
+    static int[] of(int... lengths) {
+        return lengths;
+    }
+
+    /** The states of all subsections, a letter each: F, O, A, U. */
+    static String states(TrackKeeper x) {
+        StringBuilder letters = new StringBuilder();
+        for (int sub = 0; sub < x.count(1, 0); sub++) {
+            letters.append("FOAU".charAt(x.state(sub)));
+        }
+        return letters.toString();
+    }
+
+    static void same(String what, Object got, Object due) {
+        if (!Objects.equals(got, due)) {
+            wrong++;
+            System.out.println(what + ": got " + got + ", due is " + due);
+        }
+    }
+
+    static void refused(String what, Class<? extends RuntimeException> due, Call call) {
+        Object got = "nothing";
+        try {
+            call.run();
+        } catch (RuntimeException e) {
+            got = e.getClass();
+        }
+        same(what + " throws", got, due);
+    }
+
+    static void badState(String what, Call call) {
+        refused(what, IllegalStateException.class, call);
+    }
+
+    static void badArgument(String what, Call call) {
+        refused(what, IllegalArgumentException.class, call);
+    }
+
+    static void tooMany(String what, Call call) {
+        refused(what, IndexOutOfBoundsException.class, call);
+    }
+
+    static void notNow(String what, Call call) {
+        refused(what, UnsupportedOperationException.class, call);
+    }
+
+    static void end() {
+        if (wrong != 0) {
+            System.out.println(wrong + " wrong");
+            System.exit(1);
+        }
+    }
+}
