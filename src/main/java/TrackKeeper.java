@@ -236,13 +236,13 @@ public final class TrackKeeper {
         boolean reached;
     }
 
+    /** A SUBSECTION: how many TRAINS COVER it, and the latest of them (the only one, if it is one). */
     private static final class Subsection {
         int section;
         int start;
         int state;
         int covers;
         int coverer;
-        int occupier;
     }
 
     /** THE TRACK, and the STATES of its SUBSECTIONS. */
@@ -301,7 +301,6 @@ public final class TrackKeeper {
             for (int i = 0; i < sectionCount; i++) {
                 sections[i].filled = false;
                 sections[i].counted = 0;
-                sections[i].due = false;
             }
             for (int i = 0; i < subCount; i++) {
                 subs[i].state = FREE;
@@ -401,11 +400,11 @@ public final class TrackKeeper {
                 return AMBIGUOUS;
             }
             if (sub.covers == 1) {
-                sub.occupier = sub.coverer;
                 return trains[sub.coverer].occupies ? OCCUPIED : AMBIGUOUS;
             }
             if (sub.state == OCCUPIED) {
-                return trains[sub.occupier].hasLeft(number) ? FREE : UNKNOWN;
+                // None COVERED it since, so that its coverer is still the one that did before.
+                return trains[sub.coverer].hasLeft(number) ? FREE : UNKNOWN;
             }
             if (sub.state != FREE) {
                 return UNKNOWN;
@@ -428,12 +427,10 @@ public final class TrackKeeper {
         boolean located;
         boolean whole;
         boolean occupies;
-        int end = NONE;
+        int end;
 
         void forgetAll() {
             connected = false;
-            reported = false;
-            confirmed = false;
             located = false;
             whole = false;
             end = NONE;

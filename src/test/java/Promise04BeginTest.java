@@ -33,35 +33,45 @@ public final class Promise04BeginTest {
         Kit.same("ready", x.begin(1, 1, 1), 4);
     }
 
-    private static void anew() {
-        TrackKeeper x = Kit.begun(9, 9, 1, Kit.of(10, 10), Kit.of(10));
+    /** Train 0 has an end, train 1 had one; one was shortened, a spread was due and counts again. */
+    private static TrackKeeper wellUsed() {
+        TrackKeeper x = Kit.begun(9, 9, 2, Kit.of(10, 10), Kit.of(10));
         x.connect(0, 5);
-        x.detect(0, true);
         x.report(0, 8, 1);
-        x.request(0, 2);
+        x.connect(1, 5);
+        x.report(1, 8, 1);
+        x.request(1, 2);
         x.detect(1, true);
+        x.leave(1);
+        x.request(0, 1);
         x.tick(3);
-        x.leave(0);
-        x.connect(0, 5);
-        x.report(0, 8, 1);
-        x.detect(1, false);
-        x.request(0, 2);
+        return x;
+    }
+
+    private static void anew() {
+        TrackKeeper x = wellUsed();
+        int[] before = {3, 1, 1, 1, 1, 1};
+        for (int what = 2; what <= 7; what++) {
+            Kit.same("count(" + what + ") before", x.count(what, 1), before[what - 2]);
+        }
+        Kit.same("end before", x.train(0, 3), 1);
         Kit.badArgument("a refused begin", () -> x.begin(0, 1, 1));
         Kit.same("a refused begin changes nothing", x.count(2, 0), 3);
-        Kit.same("it begins anew", x.begin(2, 2, 2), 30);
+
+        Kit.same("it begins anew", x.begin(1, 2, 3), 30);
         Kit.same("states", Kit.states(x), "FFF");
-        for (int what = 2; what <= 5; what++) {
-            Kit.same("count(" + what + ") behind begin", x.count(what, 0), 0);
+        for (int what = 2; what <= 7; what++) {
+            Kit.same("count(" + what + ") behind begin", x.count(what, 1), 0);
         }
-        for (int k = 0; k < 2; k++) {
-            Kit.same("counted of " + k, x.count(6, k), 0);
-            Kit.same("section " + k + " is empty", x.count(7, k), 0);
+        int[] nothing = {0, 0, 0, -1, -1, -1};
+        for (int what = 0; what <= 5; what++) {
+            Kit.same("train(0, " + what + ") behind begin", x.train(0, what), nothing[what]);
         }
-        Kit.same("no train is connected", x.train(0, 0), 0);
-        Kit.same("no train is located", x.train(0, 1), 0);
-        Kit.same("no train is whole", x.train(0, 2), 0);
-        Kit.same("no end", x.train(0, 3), -1);
         x.tick(1);
         Kit.same("the old end is not withdrawn later", x.count(4, 0), 0);
+        x.connect(0, 5);
+        Kit.same("the old report is forgotten", x.report(0, 1, 0), true);
+        x.tick(2);
+        Kit.same("the new mute is in force", x.train(0, 1), 0);
     }
 }

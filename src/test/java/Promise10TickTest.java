@@ -5,6 +5,7 @@ public final class Promise10TickTest {
         mute();
         keep();
         spread();
+        spreadIsDueForThatOnce();
         spreadStartsAgain();
         spreadsOfTwoSections();
         oneByOne();
@@ -91,6 +92,17 @@ public final class Promise10TickTest {
         Kit.same("spread 1 is due at once", Kit.states(quick), "UOUUF");
         Kit.same("with 0 counted", quick.count(6, 0), 0);
         Kit.same("once", quick.count(5, 0), 1);
+    }
+
+    private static void spreadIsDueForThatOnce() {
+        TrackKeeper x = withUnknownAtItsEnd(2);
+        x.tick(2);
+        Kit.same("due", Kit.states(x), "UOUUF");
+        x.detect(0, false);
+        x.detect(0, true);
+        Kit.same("not due any more", Kit.states(x), "FOFFF");
+        x.tick(5);
+        Kit.same("nor later", Kit.states(x), "FOFFF");
     }
 
     private static void spreadStartsAgain() {

@@ -7,6 +7,7 @@ public final class Promise11RequestTest {
         shortened();
         shortenedToNothing();
         reached();
+        onTheLongestTrack();
         refusals();
         Kit.end();
     }
@@ -60,6 +61,9 @@ public final class Promise11RequestTest {
         x.report(3, 450, 0);
         Kit.same("beyond the other's end", x.request(3, 5), 5);
         Kit.same("in the other's authority itself, on to its end", x.request(7, 5), 4);
+        x.connect(6, 10);
+        x.report(6, 50, 0);
+        Kit.same("the one beside it has all", x.request(6, 5), -1);
         x.leave(7);
         Kit.same("once the other has none", x.request(0, 5), 4);
         x.leave(3);
@@ -116,6 +120,26 @@ public final class Promise11RequestTest {
         Kit.same("beyond its end: none", x.train(0, 3), -1);
         Kit.same("never shortened", x.count(3, 0), 0);
         Kit.same("never withdrawn", x.count(4, 0), 0);
+    }
+
+    private static void onTheLongestTrack() {
+        TrackKeeper x = new TrackKeeper();
+        x.section();
+        for (int i = 0; i < 32; i++) {
+            x.sub(100000);
+        }
+        x.begin(9, 9, 9);
+        x.connect(0, 100000);
+        x.report(0, 0, 1);
+        Kit.same("to the last of 32", x.request(0, 31), 31);
+        x.tick(1);
+        Kit.same("kept", x.train(0, 3), 31);
+        x.detect(0, true);
+        Kit.same("kept in an occupied section", x.train(0, 3), 31);
+        x.report(0, 3200000, 1);
+        Kit.same("at the end of the track", x.train(0, 5), 31);
+        Kit.same("none any more", x.train(0, 3), -1);
+        Kit.same("no further", x.request(0, 31), -1);
     }
 
     private static void refusals() {

@@ -129,6 +129,15 @@ public final class Promise12StateTest {
         z.detect(0, true);
         z.leave(0);
         Kit.same("only the train that covered it may free it", Kit.states(z), "UAFFF");
+
+        TrackKeeper w = twoSections();
+        w.connect(5, 80);
+        w.connect(7, 80);
+        w.report(7, 90, 1);
+        w.detect(0, true);
+        w.report(5, 390, 1);
+        w.report(7, 190, 1);
+        Kit.same("a train of any number frees it", Kit.states(w), "FAFFF");
     }
 
     private static void wasAmbiguous() {
