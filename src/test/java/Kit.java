@@ -1,3 +1,4 @@
+import java.util.Arrays;
 import java.util.Objects;
 
 /** What every test uses: tracks ready to run, answers looked at, wrong ones counted. */
@@ -33,6 +34,20 @@ final class Kit {
         return lengths;
     }
 
+    /** A section of subsections of one metre each, so that subsections tell places to the metre. */
+    static int[] metres(int subsections) {
+        int[] lengths = new int[subsections];
+        Arrays.fill(lengths, 1);
+        return lengths;
+    }
+
+    /** More ticks than one call may count. */
+    static void tickLong(TrackKeeper x, int ticks) {
+        for (int left = ticks; left > 0; left -= 1000) {
+            x.tick(Math.min(left, 1000));
+        }
+    }
+
     /** The states of all subsections, a letter each: F, O, A, U. */
     static String states(TrackKeeper x) {
         StringBuilder letters = new StringBuilder();
@@ -40,6 +55,35 @@ final class Kit {
             letters.append("FOAU".charAt(x.state(sub)));
         }
         return letters.toString();
+    }
+
+    /** All that an object tells of itself, begun or not: two such texts show whether anything changed. */
+    static String told(TrackKeeper x) {
+        StringBuilder text = new StringBuilder("counts");
+        for (int what = 0; what <= 5; what++) {
+            text.append(' ').append(x.count(what, 0));
+        }
+        for (int k = 0; k < x.count(0, 0); k++) {
+            text.append(" section ").append(x.count(6, k)).append(' ').append(x.count(7, k));
+        }
+        return text.append(isBegun(x) ? toldOfStates(x) : " not begun").toString();
+    }
+
+    private static boolean isBegun(TrackKeeper x) {
+        try {
+            x.train(0, 0);
+            return true;
+        } catch (IllegalStateException e) {
+            return false;
+        }
+    }
+
+    private static String toldOfStates(TrackKeeper x) {
+        StringBuilder text = new StringBuilder(" ").append(states(x));
+        for (int asked = 0; asked < 48; asked++) {
+            text.append(asked % 6 == 0 ? " train " : " ").append(x.train(asked / 6, asked % 6));
+        }
+        return text.toString();
     }
 
     static void same(String what, Object got, Object due) {

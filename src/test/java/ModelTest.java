@@ -1,30 +1,29 @@
 import java.util.Random;
 
-/** Long runs of calls by fixed seeds: TrackKeeper answers as the literal TrackModel does. */
+/**
+ * Long runs of calls by fixed seeds: TrackKeeper answers as the literal TrackModel does, also when
+ * calls are refused in between, when it begins anew, and when another track is laid.
+ */
 public final class ModelTest {
-    private static final int RUNS = 6000;
-    private static final int CALLS = 150;
+    private static final int RUNS = 9000;
+    /** Each with a question and now and then a refused one; two tracks and all questions at the end: 512 at most. */
+    private static final int CALLS = 85;
+    private static final int MOST_SECTIONS = 10;
+    private static final int MOST_SUBSECTIONS = 32;
 
     private final Random random;
     private final int run;
-    private final int[][] sections;
-    private final TrackKeeper keeper;
-    private final TrackModel model;
-    private final int trains;
     private final int[] seen;
+    private final TrackKeeper keeper = new TrackKeeper();
+    private int[][] sections;
+    private int longest;
+    private TrackModel model;
+    private int trains;
 
     private ModelTest(int run, int[] seen) {
         this.run = run;
         this.seen = seen;
         random = new Random(run);
-        sections = someSections();
-        trains = 1 + random.nextInt(4);
-        keeper = Kit.laid(sections);
-        int mute = 1 + random.nextInt(12);
-        int keep = 1 + random.nextInt(12);
-        int spread = 1 + random.nextInt(8);
-        keeper.begin(mute, keep, spread);
-        model = new TrackModel(sections, mute, keep, spread);
     }
 
     public static void main(String[] args) {
@@ -39,26 +38,109 @@ public final class ModelTest {
         Kit.end();
     }
 
+    private void lay() {
+        boolean full = random.nextInt(8) == 0;
+        longest = random.nextInt(8) == 0 ? 100000 : 20;
+        trains = full ? 8 : 1 + random.nextInt(4);
+        sections = full ? mostSections() : someSections();
+        for (int[] section : sections) {
+            keeper.section();
+            for (int metres : section) {
+                keeper.sub(metres);
+            }
+        }
+    }
+
     private int[][] someSections() {
         int[][] rows = new int[1 + random.nextInt(5)][];
         for (int i = 0; i < rows.length; i++) {
-            rows[i] = new int[1 + random.nextInt(4)];
-            for (int j = 0; j < rows[i].length; j++) {
-                rows[i][j] = 1 + random.nextInt(20);
-            }
+            rows[i] = someLengths(1 + random.nextInt(4));
         }
         return rows;
     }
 
+    private int[][] mostSections() {
+        int[][] rows = new int[MOST_SECTIONS][];
+        int left = MOST_SUBSECTIONS;
+        for (int i = 0; i < MOST_SECTIONS; i++) {
+            int others = MOST_SECTIONS - 1 - i;
+            rows[i] = someLengths(others == 0 ? left : 1 + random.nextInt(Math.min(5, left - others)));
+            left -= rows[i].length;
+        }
+        return rows;
+    }
+
+    private int[] someLengths(int subsections) {
+        int[] lengths = new int[subsections];
+        for (int i = 0; i < subsections; i++) {
+            lengths[i] = 1 + random.nextInt(longest);
+        }
+        return lengths;
+    }
+
+    private void begin() {
+        int mute = 1 + random.nextInt(12);
+        int keep = 1 + random.nextInt(12);
+        int spread = 1 + random.nextInt(8);
+        model = new TrackModel(sections, mute, keep, spread);
+        Kit.same("run " + run + " begin", keeper.begin(mute, keep, spread), model.length);
+    }
+
     private void go() {
+        lay();
+        begin();
+        int changed = random.nextInt(2 * CALLS);
         for (int call = 0; call < CALLS; call++) {
+            if (call == changed) {
+                changeTrack();
+            }
+            if (random.nextInt(4) == 0) {
+                refusedCall("run " + run + ", call " + call + " refused");
+            }
             String what = oneCall();
             askOne("run " + run + ", call " + call + " " + what);
         }
         askAll("run " + run + ", at its end");
+        noteCounts();
+    }
+
+    private void changeTrack() {
+        noteCounts();
+        if (random.nextBoolean()) {
+            keeper.clear();
+            lay();
+        }
+        begin();
+    }
+
+    private void noteCounts() {
         seen[4] += model.shortened;
         seen[5] += model.withdrawn;
         seen[6] += model.spreadsDue;
+    }
+
+    private void refusedCall(String what) {
+        int train = random.nextInt(8);
+        int beyond = random.nextBoolean() ? -1 - random.nextInt(3) : 8 + random.nextInt(3);
+        int noSpan = random.nextBoolean() ? -random.nextInt(3) : 100001 + random.nextInt(3);
+        switch (random.nextInt(9)) {
+            case 0 -> Kit.badState(what + " section", keeper::section);
+            case 1 -> Kit.badState(what + " sub", () -> keeper.sub(1));
+            case 2 -> Kit.badArgument(what + " begin", () -> keeper.begin(1, noSpan, 1));
+            case 3 -> Kit.badArgument(what + " detect", () -> keeper.detect(sections.length, true));
+            case 4 -> Kit.badArgument(what + " connect", () -> keeper.connect(train, noSpan));
+            case 5 -> Kit.badArgument(what + " report", () -> keeper.report(train, model.length + 1, 1));
+            case 6 -> Kit.badArgument(what + " leave", () -> keeper.leave(beyond));
+            case 7 -> Kit.badArgument(what + " tick", () -> keeper.tick(noSpan));
+            default -> refusedForTrain(what, train);
+        }
+    }
+
+    private void refusedForTrain(String what, int train) {
+        if (!model.connected[train]) {
+            Kit.notNow(what + " report", () -> keeper.report(train, 0, 1));
+            Kit.notNow(what + " leave", () -> keeper.leave(train));
+        }
     }
 
     private String oneCall() {
@@ -71,7 +153,7 @@ public final class ModelTest {
             return tick(1 + random.nextInt(4));
         }
         if (!model.connected[train]) {
-            int metres = 1 + random.nextInt(30);
+            int metres = 1 + random.nextInt(Math.min(100000, longest * 3 / 2));
             keeper.connect(train, metres);
             model.connect(train, metres);
             return "connect " + train;
@@ -122,8 +204,8 @@ public final class ModelTest {
     }
 
     private String report(int train) {
-        int from = model.reports.get(train).isEmpty() ? random.nextInt(30) : model.latest(train).front();
-        int front = Math.max(0, Math.min(model.length, from + random.nextInt(14) - 2));
+        int from = model.reports.get(train).isEmpty() ? random.nextInt(model.length + 1) / 2 : model.latest(train).front();
+        int front = Math.max(0, Math.min(model.length, from + random.nextInt(longest * 7 / 10) - longest / 10));
         int integrity = random.nextInt(10) < 6 ? 1 : random.nextInt(3);
         String what = "report " + train + " " + front + " " + integrity;
         boolean taken = model.report(train, front, integrity);
